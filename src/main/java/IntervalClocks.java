@@ -15,7 +15,8 @@ public final class IntervalClocks {
     private static final int EVENTS_IN_LOW = 64;
 
     // Parties are holders 0 .. 7 and notes are holders 8 .. 15, as the calls write them,
-    // so that whatever concerns both can go over one range.
+    // so that whatever concerns both can go over one range. What the other arrays hold for one
+    // that is not present means nothing, and is overwritten when it comes.
     private final boolean[] present = new boolean[HOLDERS];
 
     // What a holder knows is a set of events; 100 events do not fit into one long.
@@ -43,6 +44,7 @@ public final class IntervalClocks {
         int given = cellCount[a] / 2;
         cellCount[a] -= given;
         cellCount[slot] = given;
+        present[slot] = true;
         copyKnowledge(a, slot);
         return slot;
     }
@@ -53,8 +55,7 @@ public final class IntervalClocks {
         }
         learn(b, a);
         cellCount[a] += cellCount[b];
-        cellCount[b] = 0;
-        remove(b);
+        present[b] = false;
         return cellCount[a];
     }
 
@@ -89,6 +90,7 @@ public final class IntervalClocks {
         if (!isParty(a) || !isNoteNumber(n)) {
             return false;
         }
+        present[PARTIES + n] = true;
         copyKnowledge(a, PARTIES + n);
         return true;
     }
@@ -97,7 +99,7 @@ public final class IntervalClocks {
         if (!isWritten(n)) {
             return false;
         }
-        remove(PARTIES + n);
+        present[PARTIES + n] = false;
         return true;
     }
 
@@ -208,7 +210,6 @@ public final class IntervalClocks {
     }
 
     private void copyKnowledge(int from, int to) {
-        present[to] = true;
         knownLow[to] = knownLow[from];
         knownHigh[to] = knownHigh[from];
     }
@@ -216,12 +217,6 @@ public final class IntervalClocks {
     private void learn(int from, int to) {
         knownLow[to] |= knownLow[from];
         knownHigh[to] |= knownHigh[from];
-    }
-
-    private void remove(int x) {
-        present[x] = false;
-        knownLow[x] = 0L;
-        knownHigh[x] = 0L;
     }
 
     private boolean isBehind(int x, int y) {

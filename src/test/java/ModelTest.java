@@ -12,7 +12,22 @@ import java.util.TreeSet;
 public final class ModelTest {
     private static final int RUNS = 3000;
     private static final int CALLS = 512;
-    private static final int METHODS = 15;
+    private static final String[] NAMES = {
+        "split", "join", "event", "tell", "note", "erase", "parties", "notes", "events", "cells",
+        "compare", "behind", "newest", "everywhere", "apartPairs"
+    };
+    private static final int SPLIT = 0;
+    private static final int EVENT = 2;
+    private static final int TELL = 3;
+
+    /** Without these the runs would not be worth much. */
+    private static final String[] MUST_BE_SEEN = {
+        "split -2", "split -1", "split 7", "join -1", "join 32", "event -2", "event -1", "event 1", "event 64",
+        "event 65", "event 100", "tell -1", "tell 0", "tell 1", "note 0", "note 1", "erase 0", "erase 1",
+        "parties 255", "notes 0", "notes 255", "events 0", "events 100", "cells -1", "cells 1", "cells 32",
+        "compare -1", "compare 0", "compare 1", "compare 2", "compare 3", "behind 0", "newest 1",
+        "everywhere 0", "everywhere 1", "apartPairs 0", "apartPairs 20"
+    };
 
     /** What parties (0 .. 7) and notes (8 .. 15) that are there know. */
     private final Map<Integer, Set<Integer>> known = new TreeMap<>();
@@ -29,14 +44,14 @@ public final class ModelTest {
 
     public static void main(String[] args) {
         int wrong = 0;
-        int[] reached = new int[METHODS];
+        Set<String> seen = new HashSet<>();
         for (int run = 0; run < RUNS && wrong < 20; run++) {
-            wrong += wrongAnswers(run, reached);
+            wrong += wrongAnswers(run, seen);
         }
-        for (int method = 0; method < METHODS; method++) {
-            if (reached[method] == 0) {
+        for (String answer : MUST_BE_SEEN) {
+            if (wrong == 0 && !seen.contains(answer)) {
                 wrong++;
-                System.out.println("method " + method + " was never called");
+                System.out.println("no run was due to answer " + answer);
             }
         }
         System.out.println(wrong == 0 ? "all answers are as due" : wrong + " answers are not as due");
@@ -45,34 +60,52 @@ public final class ModelTest {
         }
     }
 
-    private static int wrongAnswers(int run, int[] reached) {
+    private static int wrongAnswers(int run, Set<String> seen) {
         Random random = new Random(run);
         IntervalClocks clocks = new IntervalClocks();
         ModelTest model = new ModelTest();
-        // Some runs change much, others mostly ask; events are rarer in some, so that not all of them end FULL.
-        int changing = 2 + random.nextInt(8);
-        int eventWeight = 1 + random.nextInt(6);
+        int[] weights = weights(random);
         for (int call = 0; call < CALLS; call++) {
-            int method = random.nextInt(10) < changing ? random.nextInt(6) : 6 + random.nextInt(METHODS - 6);
-            if (method == 1 && random.nextInt(3) != 0) {
-                method = 0;
-            }
-            if (method == 2 && random.nextInt(eventWeight) != 0) {
-                method = 3;
-            }
+            int method = choice(weights, random);
             int p = argument(random);
             int q = argument(random);
-            reached[method]++;
-            int got = answer(clocks, method, p, q);
             int want = model.due(method, p, q);
+            int got = answer(clocks, method, p, q);
+            seen.add(NAMES[method] + " " + want);
             if (got != want) {
-                System.out.println("run " + run + ", call " + call + ": method " + method
-                    + " (" + p + ", " + q + ") answered " + got + ", due is " + want);
+                System.out.println("run " + run + ", call " + call + ": " + NAMES[method]
+                    + " with " + p + ", " + q + " answered " + got + ", due is " + want);
                 return 1;
             }
             model.check();
         }
         return 0;
+    }
+
+    /** Runs differ in how often each method is called, so that some fill up and others stay small. */
+    private static int[] weights(Random random) {
+        int[] weights = new int[NAMES.length];
+        for (int method = 0; method < weights.length; method++) {
+            weights[method] = 1 + random.nextInt(4);
+        }
+        weights[SPLIT] += random.nextInt(8);
+        weights[EVENT] += random.nextInt(40);
+        weights[TELL] += random.nextInt(8);
+        return weights;
+    }
+
+    private static int choice(int[] weights, Random random) {
+        int sum = 0;
+        for (int weight : weights) {
+            sum += weight;
+        }
+        int rest = random.nextInt(sum);
+        int method = 0;
+        while (rest >= weights[method]) {
+            rest -= weights[method];
+            method++;
+        }
+        return method;
     }
 
     private static int argument(Random random) {

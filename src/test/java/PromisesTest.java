@@ -28,6 +28,7 @@ public final class PromisesTest {
         tellRefuses();
         promise = 6;
         noteKeeps();
+        noteForgetsWhatItHeld();
         noteRefuses();
         noteOfNothingKnown();
         promise = 7;
@@ -330,6 +331,16 @@ public final class PromisesTest {
         due("note(1, 0) leaves note 7 as it was", c.compare(15, 0), IntervalClocks.BEHIND);
         c.join(0, 1);
         due("the note outlives its party", c.compare(8, 0), IntervalClocks.BEHIND);
+    }
+
+    private static void noteForgetsWhatItHeld() {
+        IntervalClocks c = new IntervalClocks();
+        c.split(0);
+        c.event(0);
+        due("note(0, 3)", c.note(0, 3), true);
+        due("note(1, 3), of one that knows less", c.note(1, 3), true);
+        due("compare(11, 1)", c.compare(11, 1), IntervalClocks.SAME);
+        due("compare(11, 0)", c.compare(11, 0), IntervalClocks.BEHIND);
     }
 
     private static void noteRefuses() {
